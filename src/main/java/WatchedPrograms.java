@@ -861,6 +861,7 @@ public final class WatchedPrograms {
             int tried = secretCells & program.used;
             int opens = numbersOf(triedOpen);
             int secrets = numbersOf(tried);
+            if (secrets < 2) return false;
             pairOpen = 0;
             for (int k = 0; k < opens; k++) {
                 long due = look(pairOpen, watcher, without) & lens;
@@ -874,13 +875,15 @@ public final class WatchedPrograms {
             return false;
         }
 
+        /** Where every secret tried has a heap of its own, no later open number tells more. */
         int tellsMost() {
             int triedOpen = openCells & program.used;
             int opens = numbersOf(triedOpen);
+            int secrets = numbersOf(secretCells & program.used);
             int open = 0;
             int best = 0;
             mostHeaps = 0;
-            for (int k = 0; k < opens; k++) {
+            for (int k = 0; k < opens && mostHeaps < secrets; k++) {
                 int many = countHeaps(open);
                 if (many > mostHeaps) {
                     mostHeaps = many;

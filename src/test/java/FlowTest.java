@@ -73,6 +73,7 @@ public final class FlowTest {
         raised("000002", "a=b;b=c;c=d;d=e;e=f;", "222222");
         raised("100002", "if b{c=1;}if c{d=f;}b=a;", "111302");
         raised("300000", "out 0 a;out 0 b;", "300000");
+        raised("030000", "out 0 b;if b{out 1 1;}", "030000");
         raised("010000", "loop 3{if b{loop 2{a=1;}}}", "110000");
         WatchedPrograms x = new WatchedPrograms();
         Check.due("raised -1", x.raised(-1), BAD);

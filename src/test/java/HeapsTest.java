@@ -81,6 +81,9 @@ public final class HeapsTest {
         Check.due("open e=1", x.heaps(0, 0, 1 << 4, 0), 2);
         Check.due("open both", x.heaps(0, 0, 2 << 2 | 1 << 4, 0), 8);
         Check.due("open both and a", x.heaps(0, 0, 3 | 2 << 2 | 1 << 4, 1), 8);
+        WatchedPrograms z = Check.with("300000", "if a{f=1;}");
+        Check.due("a cell that is only written, f=0", z.heaps(0, 0, 0, 0), 2);
+        Check.due("a cell that is only written, f=1", z.heaps(0, 0, 1 << 8, 0), 1);
         Check.due("heap of d=3", x.heap(0, 0, 2 << 2, 63, 1), 3 << 2);
         Check.due("heap of f=3", x.heap(0, 0, 1 << 4, 63, 1), 1 << 4);
         Check.due("first open", x.pair(0, 0, 0), 2 << 2);
@@ -156,6 +159,8 @@ public final class HeapsTest {
         both("330000", "out 3 a;out 3 b;", 0, 0, 1);
         both("330000", "out 1 a;out 2 a;", 0, 0, 4);
         both("312000", "b=a&1;c=a&2;", 0, 0, 16 * 4);
+        both("133000", "if b{c=a;}out 1 c;", 0, 0, 1 * 4 + 3 * 4);
+        both("123300", "out 1 c+d;out 2 b;", 0, 3, 16 * 4);
         both("300000", "if a{b=b;}", 0, 0, 1);
         both("300000", "if a{b=b;}", 1, 0, 2);
         both("300000", "if (b=2){out 1 a;}", 0, 0, 1);

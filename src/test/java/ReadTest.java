@@ -42,6 +42,12 @@ public final class ReadTest {
         faultAt("a=;", 2);
         faultAt("a=b c;", 4);
         faultAt("a=b+;", 4);
+        faultAt("a=b-;", 4);
+        faultAt("a=b*;", 4);
+        faultAt("a=b&;", 4);
+        faultAt("a=!;", 3);
+        faultAt("a=(b<);", 5);
+        faultAt("a=(b=);", 5);
         faultAt("a=+b;", 2);
         faultAt("a=-b;", 2);
         faultAt("a=(b;", 4);
@@ -71,6 +77,8 @@ public final class ReadTest {
         // tokens that are none
         faultAt("g=1;", 0);
         faultAt("ab=1;", 0);
+        faultAt("az=1;", 0);
+        faultAt("a=bz;", 2);
         faultAt("a=ab;", 2);
         faultAt("outs 0 a;", 0);
         faultAt("iff a{}", 0);
@@ -78,6 +86,9 @@ public final class ReadTest {
         faultAt("looploop 2{}", 0);
         faultAt("a=4;", 2);
         faultAt("a=10;", 2);
+        faultAt("a=19;", 2);
+        faultAt("a=1a;", 3);
+        faultAt("a=1?;", 3);
         faultAt("a=00;", 2);
         faultAt("a=1 01;", 4);
         faultAt("loop 08{}", 5);
@@ -115,6 +126,10 @@ public final class ReadTest {
         faultAt("a=!(!(!(!(b+!c))));", 12);
         reads("a=((((((((b<c))))))))+((((((((b=c))))))));", 1);
         faultAt("if (((((((((a){}", 11);
+        reads("a=(b<(((((((c))))))));", 1);
+        faultAt("a=(b<((((((((c)))))))));", 12);
+        reads("a=(b=!!!!!!!c);", 1);
+        faultAt("a=(b=!!!!!!!!c);", 12);
         reads("a=b" + Check.repeat("+1", 23) + ";", 1);
         faultAt("a=b" + Check.repeat("+1", 24) + ";", 3 + 23 * 2 + 1);
         faultAt("a=(b" + Check.repeat("+1", 23) + "<c);", 4 + 46 + 1);

@@ -68,6 +68,9 @@ public final class RunTest {
         ends("loop 3{a=a+1;}b=a;", 0, 15, 5);
         ends("loop 2{loop 3{a=a+1;}}", 0, 2, 9);
         ends("loop 2{if a{b=b+1;}else{a=1;}}", 0, 5, 5);
+        ends(Check.repeat("loop 1{", 6) + "a=1;" + Check.repeat("}", 6), 0, 1, 7);
+        ends(Check.repeat("if !a{", 6) + "a=1;" + Check.repeat("}", 6), 0, 1, 7);
+        ends(Check.repeat("if a{}else{", 6) + "a=1;" + Check.repeat("}", 6), 0, 1, 7);
         ends("a=a+1;", 3, 0, 1);
         ends("f=3;", 0, 3072, 1);
         ends("", 4095, 4095, 0);
