@@ -743,11 +743,7 @@ public final class WatchedPrograms {
             int at = (int) (hash >>> 40) & slotMask;
             for (int k = 0; k <= slotMask; k++) {
                 int heap = slots[at] - 1;
-                if (heap < 0) {
-                    heap = open(at, first, second);
-                    grow(heap);
-                    return;
-                }
+                if (heap < 0) heap = open(at, first, second);
                 if (firsts[heap] == first && seconds[heap] == second) {
                     grow(heap);
                     return;
