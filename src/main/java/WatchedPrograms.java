@@ -347,7 +347,7 @@ public final class WatchedPrograms {
                 spelt = spelt << 8 | text.at(p);
                 p++;
             }
-            if (p == from + 1 && spelt < 'a' + CELLS) add(CELL, spelt - 'a', from);
+            if (p == from + 1 && spelt >= 'a' && spelt < 'a' + CELLS) add(CELL, spelt - 'a', from);
             else add(p - from > LONGEST_WORD ? WRONG : wordKind(spelt), 0, from);
             return p;
         }
@@ -371,7 +371,7 @@ public final class WatchedPrograms {
         }
 
         private static boolean isLetter(int b) {
-            return b >= 'a' && b <= 'z';
+            return b >= 'a' && b <= 'z' || b >= 'A' && b <= 'Z';
         }
 
         private static boolean isFigure(int b) {

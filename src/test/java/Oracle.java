@@ -67,8 +67,8 @@ final class Oracle {
         while (p < text.length()) {
             char c = text.charAt(p);
             int q = p + 1;
-            if (c >= 'a' && c <= 'z') {
-                while (q < text.length() && text.charAt(q) >= 'a' && text.charAt(q) <= 'z') q++;
+            if (isLetter(c)) {
+                while (q < text.length() && isLetter(text.charAt(q))) q++;
             } else if (c >= '0' && c <= '9') {
                 while (q < text.length() && text.charAt(q) >= '0' && text.charAt(q) <= '9') q++;
             }
@@ -83,6 +83,10 @@ final class Oracle {
         words = found.toArray(new String[0]);
         places = where.stream().mapToInt(Integer::intValue).toArray();
         at = 0;
+    }
+
+    private static boolean isLetter(char c) {
+        return c < 128 && Character.isLetter(c);
     }
 
     private boolean sees(String word) {

@@ -3,7 +3,7 @@ import java.util.Random;
 /** Random runs of calls, the same at each start, held against the Oracle; all promises. */
 public final class RandomTest {
     private static final String[] PIECES = {"a", "b", "f", "g", "=", ";", "{", "}", "+", "-", "*", "&", "!", "(", ")", "<",
-        "0", "1", "3", "4", "9", "12", "out ", "if ", "else", "loop ", " ", "?", "ab"};
+        "0", "1", "3", "4", "9", "12", "out ", "if ", "else", "loop ", " ", "?", "ab", "A"};
 
     private final Random random;
     private final WatchedPrograms x = new WatchedPrograms();

@@ -79,6 +79,16 @@ public final class ReadTest {
         faultAt("ab=1;", 0);
         faultAt("az=1;", 0);
         faultAt("a=bz;", 2);
+        // upper-case letters make words, too, though none that is a token
+        faultAt("A=1;", 0);
+        faultAt("aZ=1;", 0);
+        faultAt("a=bA;", 2);
+        faultAt("Out 0 a;", 0);
+        faultAt("outA 0 a;", 0);
+        faultAt("a[=1;", 1);
+        faultAt("a@=1;", 1);
+        faultAt("a`=1;", 1);
+        faultAt("a{=1;", 1);
         faultAt("a=ab;", 2);
         faultAt("outs 0 a;", 0);
         faultAt("iff a{}", 0);
