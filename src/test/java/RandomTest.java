@@ -55,7 +55,7 @@ public final class RandomTest {
 
     private void readProgram() {
         outs = 0;
-        String text = any(10) == 0 ? noise() : statements(0, 1 + any(4));
+        String text = any(10) == 0 ? noise() : any(4) == 0 ? atLimits() : statements(0, 1 + any(4));
         if (any(4) == 0) text = spoil(text);
         if (text.length() > 300) text = text.substring(0, 300);
         told.append("'").append(text).append("' ");
@@ -75,6 +75,40 @@ public final class RandomTest {
         int n = any(40);
         for (int k = 0; k < n; k++) s.append(PIECES[any(PIECES.length)]);
         return s.toString();
+    }
+
+    /** One of the document's limits is just met or just passed. */
+    private String atLimits() {
+        switch (any(7)) {
+            case 0: return Check.repeat(cell() + "=" + factor(4) + ";", 28 + any(4));
+            case 1: return Check.repeat("out " + any(4) + " " + factor(4) + ";", 7 + any(3));
+            case 2: return nested(5 + any(3));
+            case 3: return cell() + "=" + factor(8) + operands(21 + any(5)) + ";out 0 a;";
+            case 4: return "out " + any(3) + " " + opened(7 + any(3)) + ";";
+            case 5: return "loop 8{loop 8{loop " + (4 + any(4)) + "{" + oneStatement(3) + "}}}" + statements(2, 1 + any(3));
+            default: return "loop 3{loop 6{" + oneStatement(3) + "out " + any(4) + " " + factor(4) + ";}}" + statements(2, 1 + any(4));
+        }
+    }
+
+    private String nested(int depth) {
+        if (depth == 0) return oneStatement(4);
+        String inner = "{" + nested(depth - 1) + "}";
+        int kind = any(3);
+        if (kind == 0) return "loop " + any(9) + inner;
+        return "if " + factor(4) + (kind == 1 ? inner : "{}else" + inner) + (any(4) == 0 ? oneStatement(4) : "");
+    }
+
+    private String operands(int n) {
+        StringBuilder s = new StringBuilder();
+        for (int k = 0; k < n; k++) s.append("+-*&".charAt(any(4))).append(factor(8));
+        return s.toString();
+    }
+
+    private String opened(int n) {
+        if (n == 0) return factor(8);
+        String ahead = any(4) == 0 ? factor(8) + "+" : "";
+        if (any(2) == 0) return ahead + "!" + opened(n - 1);
+        return ahead + "(" + opened(n - 1) + (any(3) == 0 ? "<" + factor(8) : "") + ")";
     }
 
     private String spoil(String text) {
@@ -131,7 +165,7 @@ public final class RandomTest {
         int what = some(2);
         int inside = 0;
         for (int l = 0; l < 4; l++) {
-            if ((l & ~w) == 0) inside += Math.max(0, x.count(3 + l));
+            if ((l & ~w) == 0) inside += Math.max(0, y.count(3 + l));
         }
         int opens = 1 << 2 * inside;
         int secrets = 4096 / opens;
@@ -154,9 +188,9 @@ public final class RandomTest {
             case 12: case 13:
                 due("together " + w + " " + time + " " + o + " " + p, x.together(w, time, o, p), y.together(w, time, o, p));
                 break;
-            case 14: int open = some(1 << 2 * x.count(3)); due("both " + time + " " + open, x.both(time, open), y.both(time, open)); break;
+            case 14: int open = some(1 << 2 * y.count(3)); due("both " + time + " " + open, x.both(time, open), y.both(time, open)); break;
             case 15: due("flows " + what, x.flows(what), y.flows(what)); break;
-            case 16: int n = some(Math.max(1, x.count(0))); int k = some(4); due("statement " + n + " " + k, x.statement(n, k), y.statement(n, k)); break;
+            case 16: int n = some(Math.max(1, y.count(0))); int k = some(4); due("statement " + n + " " + k, x.statement(n, k), y.statement(n, k)); break;
             case 17: int c = some(6); due("raised " + c, x.raised(c), y.raised(c)); break;
             case 18: case 19: due("stop " + w + " " + time + " " + what, x.stop(w, time, what), y.stop(w, time, what)); break;
             case 20: due("tooMuch", x.tooMuch(), y.tooMuch()); break;

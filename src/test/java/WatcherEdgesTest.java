@@ -245,7 +245,7 @@ public final class WatcherEdgesTest {
             x = Check.with("300000", nineteen + "out " + level + " 1;if a{out 0 1;}");
             Check.due("whether there is a 21st behind those of " + level, x.heaps(0, 0, 0, 0), 1);
         }
-        WatchedPrograms x = Check.with("000003", "loop 4{loop 5{out 0 3;}}a=f;b=f;");
+        WatchedPrograms x = Check.with("000003", "loop 4{loop 5{out 0 3;}}a=f;");
         Check.due("20 and what is left", x.heaps(0, 0, 1023, 0), 4);
         x = Check.with("000030", "loop 4{loop 5{out 0 3;}}f=e;");
         Check.due("20 and what is left in f", x.heaps(0, 0, 1023, 0), 4);
